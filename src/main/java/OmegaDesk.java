@@ -14,7 +14,6 @@ public final class OmegaDesk {
     private static final int CAPACITY = 8;
     private static final int REFUSED = -1;
     private static final int NO_VALUE = 100;
-    private static final int NO_CONDITION = -1;
 
     private final int[] xFactors = new int[CAPACITY];
     private final int[] yFactors = new int[CAPACITY];
@@ -138,8 +137,14 @@ public final class OmegaDesk {
         return ROWS;
     }
 
+    /** Doesn't go by way of meetsAllBut, since calls would then go more than six deep. */
     private boolean isSolution(int row) {
-        return meetsAllBut(row, NO_CONDITION);
+        for (int number = 0; number < held; number++) {
+            if (!meets(row, number)) {
+                return false;
+            }
+        }
+        return true;
     }
 
     private boolean meetsAllBut(int row, int skipped) {
