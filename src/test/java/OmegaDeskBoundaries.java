@@ -602,6 +602,10 @@ public final class OmegaDeskBoundaries {
                 due("eight held: with(" + variable + ", " + value + ")", eight.with(variable, value), want);
             }
         }
+        for (int variable = 0; variable < 3; variable++) {
+            due("only the first row: with(" + variable + ", -6)", deskAtRow(-6, -6, -6).with(variable, -6), 1);
+            due("only the last row: with(" + variable + ", 6)", deskAtRow(6, 6, 6).with(variable, 6), 1);
+        }
         OmegaDesk first = deskAtRow(-6, 0, 6);
         due("only (-6, 0, 6): with(0, -6)", first.with(0, -6), 1);
         due("only (-6, 0, 6): with(0, 6)", first.with(0, 6), 0);
